@@ -201,8 +201,8 @@ public final class ShadowTolls {
         switch (what) {
             case 0: return planner.leftOut;
             case 1: return planner.costs;
-            case 2: return planner.earnedFirst;
-            case 3: return planner.earnedSecond;
+            case 2: return planner.earnedAt(0);
+            case 3: return planner.earnedAt(1);
             default: return planner.jam;
         }
     }
@@ -290,10 +290,10 @@ public final class ShadowTolls {
             for (int b = 0; b < LINES; b++) {
                 lineLaw.beTwoLines(a, b);
                 planFor(road.everybody(), day, false, lineLaw, freeLaw);
-                int worth = planner.earnedFirst - j * planner.jam;
+                int worth = planner.earnedAt(0) - j * planner.jam;
                 if ((a == 0 && b == 0) || worth > greatest) {
                     greatest = worth;
-                    answer = what == 0 ? 10 * a + b : what == 1 ? planner.earnedFirst : planner.jam;
+                    answer = what == 0 ? 10 * a + b : what == 1 ? planner.earnedAt(0) : planner.jam;
                 }
             }
         }
@@ -312,15 +312,15 @@ public final class ShadowTolls {
         int second = at(records.tollOf, 1);
         for (int turn = 0; turn < turns; turn++) {
             if (turn % 2 == 0) {
-                first = bestOfFirst(second);
+                first = bestReply(0, second);
             } else {
-                second = bestOfSecond(first);
+                second = bestReply(1, first);
             }
         }
         if (what == 0) {
             return 10 * first + second;
         }
-        return bestOfFirst(second) == first && bestOfSecond(first) == second ? 1 : 0;
+        return bestReply(0, second) == first && bestReply(1, first) == second ? 1 : 0;
     }
 
     public int ledger(int minute, int coins) throws IllegalArgumentException {
@@ -525,7 +525,7 @@ public final class ShadowTolls {
         if (both) {
             planner.price(second, 1, day);
         }
-        planner.solve();
+        planner.solve(Planner.LEFT_OUT);
         planner.seat();
     }
 
@@ -542,38 +542,29 @@ public final class ShadowTolls {
         }
     }
 
-    private static int takingsIndex(int bridge, int first, int second) {
-        return (bridge * TOLLS + first) * TOLLS + second;
+    private static int takingsIndex(int bridge, int own, int other) {
+        return (bridge * TOLLS + own) * TOLLS + other;
     }
 
     private void reckonTakings(int day) {
         for (int first = 0; first < tolls; first++) {
             for (int second = 0; second < tolls; second++) {
                 planFor(road.everybody(), day, true, lawAt(first), lawAt(second));
-                put(takings, takingsIndex(0, first, second), planner.earnedFirst);
-                put(takings, takingsIndex(1, first, second), planner.earnedSecond);
+                put(takings, takingsIndex(0, first, second), planner.earnedAt(0));
+                put(takings, takingsIndex(1, second, first), planner.earnedAt(1));
             }
         }
     }
 
-    private int bestOfFirst(int second) {
-        int bestOne = 0;
+    /** The toll by which a bridge earns most against the other one's. */
+    private int bestReply(int bridge, int other) {
+        int found = 0;
         for (int toll = 1; toll < tolls; toll++) {
-            if (at(takings, takingsIndex(0, toll, second)) > at(takings, takingsIndex(0, bestOne, second))) {
-                bestOne = toll;
+            if (at(takings, takingsIndex(bridge, toll, other)) > at(takings, takingsIndex(bridge, found, other))) {
+                found = toll;
             }
         }
-        return bestOne;
-    }
-
-    private int bestOfSecond(int first) {
-        int bestOne = 0;
-        for (int toll = 1; toll < tolls; toll++) {
-            if (at(takings, takingsIndex(1, first, toll)) > at(takings, takingsIndex(1, first, bestOne))) {
-                bestOne = toll;
-            }
-        }
-        return bestOne;
+        return found;
     }
 
     private boolean paysLedger(Law law, int day, int height, int weight) {
@@ -633,21 +624,17 @@ public final class ShadowTolls {
             return start() < end;
         }
 
-        int peek() {
-            int from = start();
-            return from < end ? at(bytes, from) : NONE;
-        }
-
         boolean sign(int wanted) {
-            if (peek() != wanted) {
+            int from = start();
+            if (from >= end || at(bytes, from) != wanted) {
                 return false;
             }
-            spot++;
+            spot = from + 1;
             return true;
         }
 
         boolean must(int wanted) {
-            return sign(wanted) || fail(WRONG, start());
+            return sign(wanted) || fail(WRONG, spot);
         }
 
         boolean word(String wanted) {
@@ -694,7 +681,7 @@ public final class ShadowTolls {
             return c >= 'a' && c <= 'z';
         }
 
-        static boolean isDigit(int c) {
+        private static boolean isDigit(int c) {
             return c >= '0' && c <= '9';
         }
     }
@@ -1171,10 +1158,6 @@ public final class ShadowTolls {
                 }
                 return condition(open + 1) && text.must(']');
             }
-            return comparison(open);
-        }
-
-        private boolean comparison(int open) {
             if (!number(open)) {
                 return false;
             }
@@ -1223,24 +1206,14 @@ public final class ShadowTolls {
                 }
                 return number(open + 1) && text.must(')');
             }
-            int step = factWord();
-            if (step == 0) {
-                step = text.number(0, COINS);
-                if (step == NONE) {
-                    return false;
-                }
+            int fact = text.word("shadow") ? -1 : text.word("height") ? -2 : text.word("weight") ? -3
+                : text.word("hour") ? -4 : text.word("day") ? -5 : text.word("feast") ? -6 : 0;
+            int step = fact == 0 ? text.number(0, COINS) : fact;
+            if (fact == 0 && step == NONE) {
+                return false;
             }
             law.add(step);
             return true;
-        }
-
-        private int factWord() {
-            if (text.word("shadow")) { return -1; }
-            if (text.word("height")) { return -2; }
-            if (text.word("weight")) { return -3; }
-            if (text.word("hour")) { return -4; }
-            if (text.word("day")) { return -5; }
-            return text.word("feast") ? -6 : 0;
         }
     }
 
@@ -1260,6 +1233,7 @@ public final class ShadowTolls {
         private final int[] least = new int[(2 * SLOTS + 1) * SETS * LAST];
         private final int[] holders = new int[2 * SLOTS];
         private final int[] paid = new int[2 * SLOTS];
+        private final int[] earned = new int[2];
         private final int[] order = new int[PEOPLE];
         private final int[] lower = new int[PEOPLE];
         private final int[] rests = new int[PEOPLE];
@@ -1268,11 +1242,8 @@ public final class ShadowTolls {
         private int bits;
         private int each;
         private int all;
-        private int penalty;
         private int leftOut;
         private int costs;
-        private int earnedFirst;
-        private int earnedSecond;
         private int jam;
 
         Planner(Road road) {
@@ -1283,7 +1254,6 @@ public final class ShadowTolls {
             bits = whose;
             each = road.slotCount();
             all = both ? 2 * each : each;
-            penalty = LEFT_OUT;
             rank();
         }
 
@@ -1328,13 +1298,16 @@ public final class ShadowTolls {
                 put(dark, i, -at(dark, i));
                 put(extras, i, 0);
             }
-            penalty = 0;
-            solve();
+            solve(0);
             return -at(least, index(0, 0, NOBODY));
         }
 
-        void solve() {
-            for (int slot = all; slot >= 0; slot--) {
+        /** Each one left out costs the penalty. */
+        void solve(int penalty) {
+            for (int gone = 0; gone < SETS; gone++) {
+                put(least, index(all, gone, NOBODY), penalty * Integer.bitCount(bits & ~gone));
+            }
+            for (int slot = all - 1; slot >= 0; slot--) {
                 for (int gone = 0; gone < SETS; gone++) {
                     if ((gone & ~bits) == 0) {
                         solveFrom(slot, gone);
@@ -1344,10 +1317,6 @@ public final class ShadowTolls {
         }
 
         private void solveFrom(int slot, int gone) {
-            if (slot == all) {
-                put(least, index(slot, gone, NOBODY), penalty * Integer.bitCount(bits & ~gone));
-                return;
-            }
             weigh(slot, gone);
             put(least, index(slot, gone, NOBODY), at(tallers, 0));
             if (!shadeReaches(slot)) {
@@ -1438,24 +1407,24 @@ public final class ShadowTolls {
 
         private void forgetSums() {
             costs = 0;
-            earnedFirst = 0;
-            earnedSecond = 0;
+            fillRow(earned, 0);
             jam = 0;
         }
 
         private void addUp(int slot, int k) {
             int coins = at(paid, slot);
             costs += coins + at(extras, slot * PEOPLE + k);
-            if (slot < each) {
-                earnedFirst += coins;
-            } else {
-                earnedSecond += coins;
-            }
+            int bridge = slot < each ? 0 : 1;
+            put(earned, bridge, at(earned, bridge) + coins);
             jam = Math.max(jam, minuteOf(slot) - road.trait(k, FROM));
         }
 
         private int minuteOf(int slot) {
             return road.slotMinute(slot < each ? slot : slot - each);
+        }
+
+        int earnedAt(int bridge) {
+            return at(earned, bridge);
         }
 
         int slotOf(int k) {

@@ -662,9 +662,78 @@ final class Oracle {
 
     private Plan plan(int bits, int day, boolean both, List<Row> first, List<Row> second, boolean most) {
         int[] seats = new int[slots() * (both ? 2 : 1)];
+        List<List<Row>> laws = List.of(first, second);
+        if (seats.length * Integer.bitCount(bits) > 24) {
+            return planBySlots(seats, bits, day, laws, most);
+        }
         Plan[] found = new Plan[1];
-        tryAll(seats, 0, bits, bits, day, List.of(first, second), most, found);
+        tryAll(seats, 0, bits, bits, day, laws, most, found);
         return found[0];
+    }
+
+    /** The best of what stands from a slot on: its seats are a chain, so that equals can be told apart seat by seat. */
+    private record Tail(int left, int costs, int earned, int seat, Tail next) {
+        boolean isBetter(Tail other, boolean most) {
+            if (most) {
+                return earned > other.earned;
+            }
+            if (left != other.left || costs != other.costs) {
+                return left < other.left || left == other.left && costs < other.costs;
+            }
+            Tail a = this;
+            Tail b = other;
+            while (a.seat == b.seat && a.next != null) {
+                a = a.next;
+                b = b.next;
+            }
+            return a.seat != b.seat && a.seat != -1 && (b.seat == -1 || a.seat < b.seat);
+        }
+    }
+
+    /** What one pays in a slot, behind one who shades him or not; for plans that are too large to try them all. */
+    private Plan planBySlots(int[] seats, int bits, int day, List<List<Row>> laws, boolean most) {
+        int people = road.people.size();
+        int[][] fares = new int[2][seats.length * people];
+        for (int i = 0; i < seats.length * people; i++) {
+            int slot = i / people;
+            int minute = road.opens + slot % slots() * road.takes;
+            for (int dark = 0; dark < 2; dark++) {
+                fares[dark][i] = fare(laws.get(slot / slots()), slot / slots(), person(i % people), day, minute, dark == 1);
+            }
+        }
+        Tail t = bestTail(0, seats.length, bits, -1, fares, most, new java.util.HashMap<>());
+        for (int i = 0; i < seats.length; i++) {
+            seats[i] = t.seat();
+            t = t.next();
+        }
+        return weigh(seats, bits, day, laws);
+    }
+
+    private Tail bestTail(int slot, int all, int waiting, int last, int[][] fares, boolean most, java.util.Map<Integer, Tail> known) {
+        if (slot == all) {
+            return new Tail(Integer.bitCount(waiting), 0, 0, -1, null);
+        }
+        int key = (slot * 256 + waiting) * 9 + last + 1;
+        if (known.containsKey(key)) {
+            return known.get(key);
+        }
+        Tail rest = bestTail(slot + 1, all, waiting, -1, fares, most, known);
+        Tail found = new Tail(rest.left(), rest.costs(), rest.earned(), -1, rest);
+        int bridge = slot / slots();
+        int minute = road.opens + slot % slots() * road.takes;
+        for (int k = 0; k < road.people.size(); k++) {
+            Person p = person(k);
+            if ((waiting >> k & 1) == 1 && in(minute, p.from, p.to)) {
+                boolean dark = road.shade && slot % slots() > 0 && last != -1 && person(last).standing() > p.standing();
+                int coins = fares[dark ? 1 : 0][slot * road.people.size() + k];
+                int costs = coins + p.cost * (minute - p.from) + bridge * road.way;
+                rest = bestTail(slot + 1, all, waiting & ~(1 << k), k, fares, most, known);
+                Tail t = new Tail(rest.left(), rest.costs() + costs, rest.earned() + coins, k, rest);
+                found = t.isBetter(found, most) ? t : found;
+            }
+        }
+        known.put(key, found);
+        return found;
     }
 
     /** All plans, those with the least traveller in the first slots first: so only a better one replaces one. */

@@ -24,6 +24,9 @@ public final class OracleTest {
         for (int i = 0; i < runs; i++) {
             new OracleTest(i).run();
         }
+        for (int i = 0; i < (runs + 19) / 20; i++) {
+            new OracleTest(-1 - i).runLarge();
+        }
         CHECKS.end();
     }
 
@@ -51,6 +54,36 @@ public final class OracleTest {
                 both(NAMES[n], arguments(NAMES[n], ARGS[n]));
             }
         }
+    }
+
+    /** Up to eight travellers and sixty slots. */
+    private void runLarge() {
+        tell("toll", "pay shadow/" + pick(1, 9) + ";pay weight/" + pick(1, 99) + " if hour>" + pick(8, 16) + ";");
+        tell("toll", law());
+        StringBuilder s = new StringBuilder("keeper " + pick(300, 700) + " " + pick(800, 1439) + ";takes " + pick(10, 60) + ";cloud 6;");
+        int people = pick(5, 8);
+        for (int k = 0; k < people; k++) {
+            int from = pick(300, 900);
+            s.append("traveller ").append(pick(50, 400)).append(' ').append(pick(1, 999)).append(' ').append(from).append(' ')
+                .append(pick(from, Math.min(1439, from + 600))).append(' ').append(pick(0, 3)).append(';');
+        }
+        s.append("lies ").append(pick(0, 4)).append(" 40;hat ").append(pick(0, 4)).append(" 99;");
+        s.append(random.nextBoolean() ? "shade;" : "").append(random.nextBoolean() ? "second 30 5;" : "");
+        tell("bridge", s.toString());
+        for (int i = 0; i < 12 && right; i++) {
+            for (String name : new String[] {"plan", "plan", "slot", "most"}) {
+                both(name, arguments(name, 0));
+            }
+            int both = oracle.call("told", 8);
+            int everybody = (1 << oracle.call("told", 0)) - 1;
+            both("plan", everybody, i, both, i % 5);
+            both("slot", everybody, i, both, i % people);
+        }
+        both("season", 3, 3, random.nextInt());
+        both("span", 20, 2, random.nextInt(), 2, random.nextInt(2));
+        both("law", 0, 1);
+        both("war", 4, pick(1, 5), 0);
+        both("war", 4, pick(1, 5), 1);
     }
 
     private static boolean dear(String name) {

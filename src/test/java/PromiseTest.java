@@ -111,6 +111,14 @@ public final class PromiseTest {
         C.same("tolls stay", x.told(9), 2);
         C.same("toll 0", x.law(0, 1), 0);
         C.same("toll 0 at the second", x.law(1, 1), 0);
+        Checks.feed(x, "takesx");
+        C.same("a word ends with the text", x.bridge(5), -9);
+        C.same("then a number is missed", x.fault(), 5);
+        Checks.feed(x, "takes 99;");
+        C.same("a number ends with the text", x.bridge(7), -9);
+        C.same("then a ; is missed", x.fault(), 7);
+        Checks.feed(x, "shade;");
+        C.same("a sign behind the text is none of it", x.bridge(5), -9);
         Checks.feed(x, "shade;takes 0;");
         C.same("the first n bytes alone", x.bridge(6), 0);
         C.same("shade", x.told(7), 1);
@@ -385,6 +393,8 @@ public final class PromiseTest {
         C.refused("shadow at 1", INDEX, () -> x.shadow(1, -1, 0, 0));
         Checks.bridge(x, "sun 0 60;falls 9;lamp 2700;");
         C.same("by the lamp", x.shadow(0, 0, 0, 55), 55);
+        Checks.bridge(x, "sun 0 61;falls 6;");
+        C.same("the least light", x.shadow(0, 0, 730, 1), 5399);
     }
 
     private static void law() {
@@ -706,6 +716,9 @@ public final class PromiseTest {
         // from day 7 on, when the shadow is three times as long, 6 is paid by 100 to 116
         C.same("weight and height", x.fits(1, 50, 0), 150 + 23 * 17);
         C.same("the first of them", x.fits(1, 50, 1), 300);
+        ShadowTolls second = Checks.made("second 60 9;", "pay shadow;");
+        second.ledger(720, 77);
+        C.same("at the first bridge", second.fits(0, 1, 1), 77);
         for (int i = 1; i < 10; i++) {
             C.same("rows", x.ledger(1439, 9999), i + 1);
         }
