@@ -799,12 +799,12 @@ public final class ShadowTolls {
         }
 
         int charge(Law law, int altitude, int height, int weight, int day, int minute) {
-            law.learn(0, shadowOf(height, altitude));
-            law.learn(1, height);
-            law.learn(2, weight);
-            law.learn(3, minute / 60);
-            law.learn(4, day);
-            law.learn(5, at(feasts, day));
+            law.learn(Law.SHADOW_FACT, shadowOf(height, altitude));
+            law.learn(Law.HEIGHT_FACT, height);
+            law.learn(Law.WEIGHT_FACT, weight);
+            law.learn(Law.HOUR_FACT, minute / 60);
+            law.learn(Law.DAY_FACT, day);
+            law.learn(Law.FEAST_FACT, at(feasts, day));
             return law.sum();
         }
 
@@ -987,6 +987,12 @@ public final class ShadowTolls {
     /** A toll as steps over a stack: numbers stand for themselves, all else is below 0. */
     private static final class Law {
         private static final int FACTS = 6;
+        private static final int SHADOW_FACT = -1;
+        private static final int HEIGHT_FACT = -2;
+        private static final int WEIGHT_FACT = -3;
+        private static final int HOUR_FACT = -4;
+        private static final int DAY_FACT = -5;
+        private static final int FEAST_FACT = -6;
         private static final int ADD = -7;
         private static final int LESS = -8;
         private static final int TIMES = -9;
@@ -1021,8 +1027,8 @@ public final class ShadowTolls {
 
         void beTwoLines(int a, int b) {
             empty();
-            addLine(-1, a, 100);
-            addLine(-3, b, 10);
+            addLine(SHADOW_FACT, a, 100);
+            addLine(WEIGHT_FACT, b, 10);
         }
 
         private void addLine(int fact, int times, int by) {
@@ -1035,7 +1041,7 @@ public final class ShadowTolls {
         }
 
         void learn(int fact, int value) {
-            put(facts, fact, value);
+            put(facts, -1 - fact, value);
         }
 
         int sum() {
@@ -1206,8 +1212,9 @@ public final class ShadowTolls {
                 }
                 return number(open + 1) && text.must(')');
             }
-            int fact = text.word("shadow") ? -1 : text.word("height") ? -2 : text.word("weight") ? -3
-                : text.word("hour") ? -4 : text.word("day") ? -5 : text.word("feast") ? -6 : 0;
+            int fact = text.word("shadow") ? Law.SHADOW_FACT : text.word("height") ? Law.HEIGHT_FACT
+                : text.word("weight") ? Law.WEIGHT_FACT : text.word("hour") ? Law.HOUR_FACT
+                : text.word("day") ? Law.DAY_FACT : text.word("feast") ? Law.FEAST_FACT : 0;
             int step = fact == 0 ? text.number(0, COINS) : fact;
             if (fact == 0 && step == NONE) {
                 return false;
