@@ -89,11 +89,13 @@ public final class ShadowTolls {
     public int toll(int n) throws IllegalArgumentException {
         needBetween(n, 0, text.fed);
         text.open(n);
-        if (!lawReader.rows()) {
-            return text.fault - 10;
-        }
+        // read even when there are four: its fault is told by fault()
+        boolean good = lawReader.rows();
         if (tolls < 0 || tolls >= laws.length) {
             return -1;
+        }
+        if (!good) {
+            return text.fault - 10;
         }
         Law law = laws[tolls];
         if (law != null) {

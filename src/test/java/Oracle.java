@@ -310,7 +310,7 @@ final class Oracle {
             rows = readLaw();
         } catch (Fault f) {
             place = f.place;
-            return f.kind - 10;
+            return tolls.size() == 4 ? -1 : f.kind - 10;
         }
         if (tolls.size() == 4) {
             return -1;

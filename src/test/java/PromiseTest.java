@@ -228,7 +228,17 @@ public final class PromiseTest {
         C.same("the rest of the tape is gone", x.count(4), 0);
         C.same("a fifth", Checks.toll(x, "pay 1;"), -1);
         C.same("tolls are four", x.told(9), 4);
-        C.same("a faulty fifth", Checks.toll(x, "pay 1"), -9);
+        C.same("no place of a good fifth", x.fault(), -1);
+        C.same("a faulty fifth, what can't stand there", Checks.toll(x, "pay 1"), -1);
+        C.same("its place too", x.fault(), 5);
+        C.same("a faulty fifth, a number", Checks.toll(x, "pay 10000;"), -1);
+        C.same("the number's place", x.fault(), 4);
+        C.same("a faulty fifth, a row too many", Checks.toll(x, "pay 1;".repeat(11)), -1);
+        C.same("the row's place", x.fault(), 60);
+        C.same("a fifth takes the tape", x.count(4), 0);
+        C.refused("a fifth of more than the tape", ARGUMENT, () -> x.toll(1));
+        Checks.bridge(x, "shade;");
+        C.same("four still, of a new bridge", x.toll(0), -1);
         C.same("seven, six at a time", Checks.toll(new ShadowTolls(), "pay ((((((1))))))+(1) if not [[[[[1<2]]]]] or not not not not not not 1=1;"), 0);
     }
 
