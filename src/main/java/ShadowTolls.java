@@ -88,13 +88,13 @@ public final class ShadowTolls {
 
     public int toll(int n) throws IllegalArgumentException {
         needBetween(n, 0, text.fed);
-        text.open(n);
-        // read even when there are four: its fault is told by fault()
-        boolean good = lawReader.rows();
         if (tolls < 0 || tolls >= laws.length) {
+            // a fifth is not read: fault() goes on telling of the text ahead
+            text.empty();
             return -1;
         }
-        if (!good) {
+        text.open(n);
+        if (!lawReader.rows()) {
             return text.fault - 10;
         }
         Law law = laws[tolls];
@@ -605,6 +605,10 @@ public final class ShadowTolls {
             spot = 0;
             fault = 0;
             place = NONE;
+            empty();
+        }
+
+        void empty() {
             fed = 0;
         }
 

@@ -304,16 +304,18 @@ final class Oracle {
     }
 
     private int toll(int n) {
+        if (tolls.size() == 4) {
+            check(in(n, 0, tape.size()));
+            tape.clear();
+            return -1;
+        }
         take(n);
         List<Row> rows;
         try {
             rows = readLaw();
         } catch (Fault f) {
             place = f.place;
-            return tolls.size() == 4 ? -1 : f.kind - 10;
-        }
-        if (tolls.size() == 4) {
-            return -1;
+            return f.kind - 10;
         }
         tolls.add(rows);
         return tolls.size() - 1;

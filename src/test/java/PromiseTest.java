@@ -230,14 +230,23 @@ public final class PromiseTest {
         C.same("tolls are four", x.told(9), 4);
         C.same("no place of a good fifth", x.fault(), -1);
         C.same("a faulty fifth, what can't stand there", Checks.toll(x, "pay 1"), -1);
-        C.same("its place too", x.fault(), 5);
+        C.same("it is not read", x.fault(), -1);
         C.same("a faulty fifth, a number", Checks.toll(x, "pay 10000;"), -1);
-        C.same("the number's place", x.fault(), 4);
+        C.same("nor is this", x.fault(), -1);
         C.same("a faulty fifth, a row too many", Checks.toll(x, "pay 1;".repeat(11)), -1);
-        C.same("the row's place", x.fault(), 60);
+        C.same("nor this", x.fault(), -1);
         C.same("a fifth takes the tape", x.count(4), 0);
         C.refused("a fifth of more than the tape", ARGUMENT, () -> x.toll(1));
+        C.same("a faulty bridge ahead of a fifth", Checks.bridge(x, "shade; shades;"), -9);
+        C.same("a good fifth behind it", Checks.toll(x, "pay 1;"), -1);
+        C.same("the latest text read is the bridge", x.fault(), 7);
+        C.same("a faulty fifth behind it", Checks.toll(x, "pay"), -1);
+        C.same("the latest text read is the bridge still", x.fault(), 7);
+        Checks.feed(x, "pay 1;");
+        C.same("a fifth of a part of the tape", x.toll(3), -1);
+        C.same("the whole tape is empty", x.count(4), 0);
         Checks.bridge(x, "shade;");
+        C.same("a good bridge has no fault", x.fault(), -1);
         C.same("four still, of a new bridge", x.toll(0), -1);
         C.same("seven, six at a time", Checks.toll(new ShadowTolls(), "pay ((((((1))))))+(1) if not [[[[[1<2]]]]] or not not not not not not 1=1;"), 0);
     }
