@@ -88,12 +88,11 @@ public final class ShadowTolls {
 
     public int toll(int n) throws IllegalArgumentException {
         needBetween(n, 0, text.fed);
+        text.open(n);
         if (tolls < 0 || tolls >= laws.length) {
-            // a fifth is not read: fault() goes on telling of the text ahead
-            text.empty();
+            // a fifth is the latest text all the same: no fault of it is told, so it need not be read
             return -1;
         }
-        text.open(n);
         if (!lawReader.rows()) {
             return text.fault - 10;
         }
@@ -605,10 +604,6 @@ public final class ShadowTolls {
             spot = 0;
             fault = 0;
             place = NONE;
-            empty();
-        }
-
-        void empty() {
             fed = 0;
         }
 

@@ -304,12 +304,10 @@ final class Oracle {
     }
 
     private int toll(int n) {
+        take(n);
         if (tolls.size() == 4) {
-            check(in(n, 0, tape.size()));
-            tape.clear();
             return -1;
         }
-        take(n);
         List<Row> rows;
         try {
             rows = readLaw();
