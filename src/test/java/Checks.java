@@ -7,12 +7,37 @@ final class Checks {
         int answer();
     }
 
+    interface Edge {
+        void check();
+    }
+
+    /** What is less is a FAULT less 10. */
+    private static final int NO_FAULT = -1;
+
     private final String title;
+    private String about = "";
+    private int edges;
     private int passed;
     private int failed;
 
     Checks(String title) {
         this.title = title;
+    }
+
+    /** The checks of one sentence of the document; what it throws is a miss of this sentence alone. */
+    void edge(String sentence, Edge edge) {
+        int before = passed + failed;
+        about = "{" + sentence + "} ";
+        try {
+            edge.check();
+        } catch (RuntimeException e) {
+            miss("threw " + e);
+        }
+        if (passed + failed == before) {
+            miss("has no check");
+        }
+        about = "";
+        edges++;
     }
 
     void same(String what, long got, long due) {
@@ -37,11 +62,12 @@ final class Checks {
 
     void miss(String line) {
         failed++;
-        System.out.println(title + ": " + line);
+        System.out.println(title + ": " + about + line);
     }
 
     void end() {
-        System.out.println(title + ": " + passed + " passed, " + failed + " failed");
+        String sentences = edges == 0 ? "" : edges + " sentences, ";
+        System.out.println(title + ": " + sentences + passed + " passed, " + failed + " failed");
         if (failed != 0) {
             System.exit(1);
         }
@@ -77,12 +103,17 @@ final class Checks {
         return x.toll(text.length());
     }
 
+    /** An object for which these texts are told; a FAULT in one is a mistake of the test. */
     static ShadowTolls made(String bridge, String... tolls) {
         ShadowTolls x = new ShadowTolls();
         for (String text : tolls) {
-            toll(x, text);
+            if (toll(x, text) < NO_FAULT) {
+                throw new AssertionError("a fault at " + x.fault() + " of {" + text + "}");
+            }
         }
-        bridge(x, bridge);
+        if (bridge(x, bridge) < NO_FAULT) {
+            throw new AssertionError("a fault at " + x.fault() + " of {" + bridge + "}");
+        }
         return x;
     }
 }
