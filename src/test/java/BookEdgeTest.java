@@ -454,8 +454,8 @@ public final class BookEdgeTest {
         C.edge("Part 4: paid under its SKY, the SEED going on", () -> {
             ShadowTolls x = Checks.made(ELEVEN, "pay shadow;pay 1;");
             for (int seed : new int[] {0, 1, 2, 3, -1, Integer.MAX_VALUE, Integer.MIN_VALUE}) {
-                for (int days = 1; days <= 3; days++) {
-                    C.same(days + " days of " + seed, x.season(7, days, seed), seasonDue(days, seed & 0xffffffffL));
+                for (int days = 1; days <= 30; days++) {
+                    C.same(days + " days of " + seed, x.season(30 - days, days, seed), seasonDue(days, seed & 0xffffffffL));
                 }
             }
         });
@@ -600,6 +600,16 @@ public final class BookEdgeTest {
             sameAs(x, 1);
             fill(x, 2);
             C.same("the image is no part of what it was made of", x.image(), 1);
+        });
+        C.edge("Promise 34: rows of the LEDGER: MINUTE and COINS of each", () -> {
+            ShadowTolls x = made();
+            x.ledger(600, 109);
+            x.image();
+            x.forget();
+            x.ledger(720, 120);
+            C.same("the row of now", x.fits(0, 1, 1), 120);
+            x.restore();
+            C.same("the row of then", x.fits(0, 1, 1), 100);
         });
         C.edge("Promise 34: of an empty object, and of a full one", () -> {
             ShadowTolls x = made();

@@ -178,6 +178,15 @@ public final class OracleTest {
         return n == 6 && random.nextInt(4) == 0 ? random.nextInt() : pick(least, greatest);
     }
 
+    /** A number of a text: now and then one of its bounds, seldom one beyond them. */
+    private int edgy(int least, int greatest) {
+        int n = random.nextInt(300);
+        if (n < 40) {
+            return n == 0 ? greatest + 1 : n % 2 == 0 ? least : greatest;
+        }
+        return pick(least, greatest);
+    }
+
     private int minute() {
         return random.nextInt(4) == 0 ? near(0, 1439) : pick(595, 850);
     }
@@ -240,8 +249,8 @@ public final class OracleTest {
             s.append(blank());
             if (told < people && random.nextBoolean()) {
                 int from = pick(opens - 60, opens + 60);
-                s.append("traveller ").append(pick(50, 400)).append(' ').append(pick(1, random.nextBoolean() ? 999 : 30)).append(' ')
-                    .append(from).append(' ').append(pick(from, from + 200)).append(' ').append(random.nextBoolean() ? 0 : pick(0, 9));
+                s.append("traveller ").append(edgy(50, 400)).append(' ').append(random.nextBoolean() ? edgy(1, 999) : pick(1, 30)).append(' ')
+                    .append(from).append(' ').append(edgy(from, from + 200)).append(' ').append(random.nextBoolean() ? 0 : edgy(0, 9));
                 told++;
             } else {
                 s.append(clause(told));
@@ -253,15 +262,15 @@ public final class OracleTest {
 
     private String clause(int told) {
         switch (pick(0, 10)) {
-            case 0: return "sun " + pick(0, 29) + " " + (random.nextInt(4) == 0 ? pick(60, 5400) : pick(100, 3500));
-            case 1: return "falls " + pick(1, 9);
-            case 2: return told == 0 ? "shade" : "hat " + pick(0, told - 1) + " " + pick(1, 99);
-            case 3: return told == 0 ? "shade" : "lies " + pick(0, told - 1) + " " + pick(10, 400);
-            case 4: return "feast " + pick(0, 29);
-            case 5: return "cloud " + pick(0, 16);
+            case 0: return "sun " + edgy(0, 29) + " " + (random.nextInt(4) == 0 ? edgy(60, 5400) : pick(100, 3500));
+            case 1: return "falls " + edgy(1, 9);
+            case 2: return told == 0 ? "shade" : "hat " + edgy(0, told - 1) + " " + edgy(1, 99);
+            case 3: return told == 0 ? "shade" : "lies " + edgy(0, told - 1) + " " + edgy(10, 400);
+            case 4: return "feast " + edgy(0, 29);
+            case 5: return "cloud " + edgy(0, 16);
             case 6:
-            case 7: return "second " + pick(0, 60) + " " + pick(0, random.nextBoolean() ? 99 : 5);
-            case 8: return "lamp " + pick(1, 5400);
+            case 7: return "second " + edgy(0, 60) + " " + (random.nextBoolean() ? edgy(0, 99) : pick(0, 5));
+            case 8: return "lamp " + edgy(1, 5400);
             default: return "shade";
         }
     }
@@ -295,7 +304,7 @@ public final class OracleTest {
         if (random.nextInt(3) != 0) {
             return words[pick(0, words.length - 1)];
         }
-        return String.valueOf(random.nextInt(4) == 0 ? pick(0, 9999) : pick(0, 12));
+        return String.valueOf(random.nextInt(4) == 0 ? edgy(0, 9999) : pick(0, 12));
     }
 
     private String condition(int deep) {

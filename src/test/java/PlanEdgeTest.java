@@ -15,6 +15,8 @@ public final class PlanEdgeTest {
         second();
         shade();
         shadeAtTwo();
+        shadeOfEight();
+        sixtySlots();
         sums();
         slot();
         most();
@@ -275,6 +277,67 @@ public final class PlanEdgeTest {
         });
     }
 
+    /** What eight pay who sit in the slots at 660, 670, .. one behind the other, each of a greater weight than the one ahead. */
+    private static int paidBy(int[] heights, boolean shaded) {
+        int coins = 0;
+        for (int slot = 0; slot < 8; slot++) {
+            int minute = 660 + 10 * slot;
+            int altitude = 2700 - 4 * Math.abs(minute - 720);
+            boolean dark = shaded && slot > 0 && heights[slot - 1] > heights[slot];
+            coins += (dark ? 0 : heights[slot] * (5400 - altitude) / altitude) + (slot + 1) * (minute / 60);
+        }
+        return coins;
+    }
+
+    /** Their bridge; who sits in a slot is told so many behind traveller 0 as the slot is behind the one at which to begin. */
+    private static String eight(int[] heights, int begin) {
+        StringBuilder s = new StringBuilder("keeper 660 740;takes 10;");
+        for (int k = 0; k < 8; k++) {
+            int slot = (begin + k) % 8;
+            int minute = 660 + 10 * slot;
+            s.append("traveller ").append(heights[slot]).append(' ').append(slot + 1).append(' ').append(minute).append(' ').append(minute).append(" 0;");
+        }
+        return s.toString();
+    }
+
+    private static void shadeOfEight() {
+        C.edge("Part 3: Under shade: of eight, each by his own height, weight and MINUTE", () -> {
+            int[][] rows = {{100, 90, 95, 80, 120, 110, 70, 75}, {50, 60, 70, 80, 90, 100, 110, 120}, {400, 350, 300, 250, 200, 150, 100, 50},
+                {100, 100, 99, 99, 100, 101, 101, 100}, {200, 50, 200, 50, 200, 50, 200, 50}};
+            for (int[] heights : rows) {
+                for (int begin = 0; begin < 8; begin++) {
+                    String name = "heights from " + heights[0] + ", " + heights[1] + ", traveller 0 in slot " + begin;
+                    ShadowTolls x = Checks.made(eight(heights, begin) + "shade;", "pay shadow;pay weight*hour;");
+                    samePlan(name, x, 255, false, 0, paidBy(heights, true), paidBy(heights, true), 0, 0);
+                    ShadowTolls y = Checks.made(eight(heights, begin), "pay shadow;pay weight*hour;");
+                    C.same(name + ", without shade", y.plan(255, 0, false, 1), paidBy(heights, false));
+                }
+            }
+        });
+        C.edge("Part 3: MOST under shade: who is shaded pays what is left without a SHADOW", () -> {
+            ShadowTolls x = Checks.made(TWO_SLOTS + "shade;traveller 300 10 600 600 0;traveller 100 20 660 660 0;", "pay shadow;pay weight;");
+            C.same("both cross", x.most(0), 327 + 10 + 20);
+            ShadowTolls y = Checks.made(TWO_SLOTS + "shade;traveller 50 10 600 600 0;traveller 100 20 660 660 0;traveller 60 1 600 600 0;", "pay shadow;pay weight;");
+            C.same("of two at 600 the one who brings more", y.most(0), 66 + 124);
+        });
+    }
+
+    private static void sixtySlots() {
+        C.edge("Part 3: 30 at most, at each of two bridges", () -> {
+            // of each two alike one goes to the second bridge, whose last two slots are the 59th and the 60th of all
+            String road = "keeper 0 1439;takes 1;shade;second 0 99;traveller 200 1 28 28 0;traveller 200 1 28 28 0;traveller 100 1 29 29 0;traveller 100 1 29 29 0;";
+            ShadowTolls x = Checks.made(road, "pay height;");
+            samePlan("60 slots", x, 15, true, 0, 600 + 198, 300, 300, 0);
+            C.same("the last but one", x.slot(15, 0, true, 1), 128);
+            C.same("the last", x.slot(15, 0, true, 3), 129);
+            samePlan("30 slots", x, 15, false, 2, 300, 300, 0, 0);
+        });
+        C.edge("Part 3: EARNED and COSTS of all 60 SLOTS: waiting, and the way", () -> {
+            String road = "keeper 100 1439;takes 1;second 0 99;traveller 200 1 99 100 9;traveller 200 1 99 100 9;traveller 100 1 129 129 9;traveller 100 1 129 129 9;";
+            samePlan("60 slots", Checks.made(road, "pay height;"), 15, true, 0, 600 + 18 + 198, 300, 300, 1);
+        });
+    }
+
     private static void sums() {
         C.edge("Part 3: EARNED: COINS of a PLAN", () -> {
             ShadowTolls x = Checks.made(ONE_SLOT + "second 0 9;traveller 100 10 500 600 9;traveller 100 20 500 600 9;", "pay weight;");
@@ -334,6 +397,8 @@ public final class PlanEdgeTest {
             C.same("the second's toll is none of it", x.most(0), 11);
             x.law(0, 1);
             C.same("the first's is", x.most(29), 9999);
+            x.plan(3, 0, true, 0);
+            C.same("nor are the second's slots, also when a plan of both was asked for ahead", x.most(0), 9999);
         });
         C.edge("Promise 18: MOST of nobody, of eight", () -> {
             C.same("no traveller", new ShadowTolls().most(0), 0);
@@ -438,6 +503,20 @@ public final class PlanEdgeTest {
             ShadowTolls equal = Checks.made(one, "pay 5;", "pay 5;");
             equal.law(0, 1);
             C.same("the first would take the lesser of equals", equal.war(0, 0, 1), 0);
+        });
+        C.edge("Part 3: SETTLED: each by what it would take itself", () -> {
+            // the way is so long that the first takes 9, and the second, which nobody goes to, the least
+            ShadowTolls x = Checks.made(ONE_SLOT + "second 0 10;traveller 100 10 600 600 0;", "pay 5;", "pay 9;");
+            C.same("behind two turns", x.war(0, 2, 0), 10);
+            C.same("settled", x.war(0, 2, 1), 1);
+            C.same("not ahead", x.war(0, 0, 1), 0);
+        });
+        C.edge("Part 3: of all TOLLS, when a bridge earns nothing", () -> {
+            // at 600 the shadow is shorter at the second bridge, so nobody goes to the first
+            ShadowTolls x = Checks.made(ONE_SLOT + "second 60 0;traveller 100 10 600 600 0;", "pay shadow;", "pay shadow;", "pay shadow;", "pay shadow;");
+            x.law(0, 3);
+            C.same("the first takes the least", x.war(0, 1, 0), 0);
+            C.same("settled", x.war(0, 1, 1), 1);
         });
         C.edge("Promise 26: turn by turn from TOLLS as they are", () -> {
             ShadowTolls x = Checks.made(one, "pay 5;", "pay 9;");

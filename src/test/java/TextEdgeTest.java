@@ -97,6 +97,16 @@ public final class TextEdgeTest {
             }
             C.same("slots", fresh.slots(), told.slots());
         });
+        C.edge("Promise 1: As by a BRIDGE without a text: no CROSSINGS, BOOKS, LEDGER, IMAGES", () -> {
+            ShadowTolls x = new ShadowTolls();
+            sameCounts("new", x, 0, 0, 0, 0, 0);
+            C.same("nothing to undo", x.undo(), -1);
+            C.same("nothing to restore", x.restore(), -1);
+            C.same("nothing stolen", x.stolen(29), 0);
+            for (int day = 0; day < 30; day++) {
+                C.same("nothing written of day " + day, x.write(day, 0), -1);
+            }
+        });
         C.edge("Promise 1: no TOLLS", () -> C.same("tolls", new ShadowTolls().told(9), 0));
         C.edge("Promise 3: the BRIDGE: all that an empty text tells nothing of is as without it", () -> {
             ShadowTolls x = new ShadowTolls();
@@ -158,7 +168,29 @@ public final class TextEdgeTest {
         });
     }
 
+    private static void behindTheText(String text, boolean toll, int n) {
+        ShadowTolls x = fed(text);
+        C.same(n + " bytes of {" + text + "}", textOf(x, toll, n), -9);
+        C.same("its place", x.fault(), n);
+    }
+
     private static void lengths() {
+        C.edge("Promise 3: The first n bytes of the TAPE: what is behind them is none of the text", () -> {
+            behindTheText("shade;", false, 5);
+            behindTheText("takes 7;", false, 7);
+            behindTheText("takes 77;", false, 7);
+            behindTheText("takesx", false, 5);
+            behindTheText("takes ", false, 5);
+            behindTheText("shade   ;", false, 6);
+            C.same("a clause behind it", fed("takes 7;rain").bridge(8), 0);
+            C.same("a number that would go on", fed("pay 1;0").toll(6), 0);
+            behindTheText("pay 1;", true, 5);
+            behindTheText("pay 10;", true, 5);
+            behindTheText("pay (1);", true, 6);
+            behindTheText("pay 1+1;", true, 6);
+            behindTheText("pay 1 if 1<2;", true, 10);
+            behindTheText("pay 1 if 1<2;", true, 8);
+        });
         C.edge("Terms: TWO TEXTS of up to 500 bytes, a bridge of 500", () -> {
             C.same("the last byte counts", read("shade" + " ".repeat(494) + ";").told(7), 1);
             C.same("no byte to spare", read("takes 7;falls " + "0".repeat(484) + "3;").told(1), 3);
@@ -471,7 +503,12 @@ public final class TextEdgeTest {
             C.same(">", coinsBy("pay 1 if 3>2;pay 2 if 2>3;"), 1);
             C.same("=", coinsBy("pay 1 if 2=3;pay 2 if 3=2;"), 0);
         });
-        C.edge("Terms: or, and", () -> {
+        C.edge("Terms: or, and: both sides are worked", () -> {
+            holds("1=1 or 5/0=7");
+            holds("5/0=0 and 1=1");
+            C.same("the left decides nothing alone", coinsBy("pay 5 if 1=2 and 5/0=0;pay 7 if 1=1 or 5/0=0;"), 7);
+        });
+        C.edge("Terms: D { \"or\" D }, B { \"and\" B }", () -> {
             C.same("or", coinsBy("pay 1 if 1=2 or 1=2;pay 2 if 1=1 or 1=2;pay 4 if 1=2 or 1=1;pay 8 if 1=1 or 1=1;"), 14);
             C.same("and", coinsBy("pay 1 if 1=2 and 1=2;pay 2 if 1=1 and 1=2;pay 4 if 1=2 and 1=1;pay 8 if 1=1 and 1=1;"), 8);
             C.same("and binds more", coinsBy("pay 1 if 1=1 or 1=1 and 1=2;pay 2 if 1=2 and 1=1 or 1=1;pay 4 if 1=2 and [1=1 or 1=1];"), 3);
@@ -492,6 +529,9 @@ public final class TextEdgeTest {
             C.same("a number ends it", read("takes7;").told(4), 7);
             faulty("shadex;", 1, 0);
             faulty("sha de;", 1, 0);
+            faulty("shadea;", 1, 0);
+            faulty("shadez;", 1, 0);
+            faulty("zshade;", 1, 0);
             faulty("shade`;", 1, 5);
             faulty("shade{;", 1, 5);
             faulty("shadeX;", 1, 5);
@@ -741,6 +781,25 @@ public final class TextEdgeTest {
             C.same("nothing written", x.write(3, 5), -1);
             C.same("nothing to restore", x.restore(), -1);
             C.same("no row", x.forget(), 0);
+        });
+        C.edge("Promise 3: CROSSINGS, BOOKS, LEDGER, IMAGES gone, of a full object", () -> {
+            ShadowTolls x = Checks.made(ONE, "pay 1;", "pay 2;", "pay 3;", "pay 4;");
+            for (int round = 0; round < 2; round++) {
+                for (int i = 0; i < 60; i++) {
+                    C.same("crossing", x.cross(0, 0, i % 30, 720), 1);
+                    x.write(i % 30, i);
+                    x.ledger(720, i);
+                    x.image();
+                }
+                sameCounts("full, round " + round, x, 60, 10, 30, 3, 0);
+                C.same("no more crossings", x.cross(0, 0, 0, 720), -1);
+                C.same("no more rows", x.ledger(0, 0), -1);
+                C.same("no more images", x.image(), -1);
+                C.same("no more tolls", Checks.toll(x, "pay 5;"), -1);
+                C.same("a bridge", Checks.bridge(x, ONE), 1);
+                sameCounts("behind a bridge, round " + round, x, 0, 0, 0, 0, 0);
+                C.same("tolls stay", x.told(9), 4);
+            }
         });
         C.edge("Promise 3: also by a BRIDGE without a text", () -> {
             ShadowTolls x = busy();
