@@ -787,8 +787,14 @@ public final class TextEdgeTest {
             for (int round = 0; round < 2; round++) {
                 for (int i = 0; i < 60; i++) {
                     C.same("crossing", x.cross(0, 0, i % 30, 720), 1);
-                    x.write(i % 30, i);
+                }
+                for (int i = 0; i < 30; i++) {
+                    x.write(i, i);
+                }
+                for (int i = 0; i < 10; i++) {
                     x.ledger(720, i);
+                }
+                for (int i = 0; i < 3; i++) {
                     x.image();
                 }
                 sameCounts("full, round " + round, x, 60, 10, 30, 3, 0);
