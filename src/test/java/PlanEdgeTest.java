@@ -17,6 +17,7 @@ public final class PlanEdgeTest {
         shadeAtTwo();
         shadeOfEight();
         sixtySlots();
+        plansInTurn();
         sums();
         slot();
         most();
@@ -338,6 +339,33 @@ public final class PlanEdgeTest {
         });
     }
 
+    private static void plansInTurn() {
+        C.edge("Promise 15: The best PLAN: what was asked ahead of it tells nothing of it", () -> {
+            String road = TWO_SLOTS + "second 0 0;traveller 100 10 500 700 0;traveller 200 10 550 700 0;traveller 100 10 600 660 0;shade;";
+            for (String toll : new String[] {"", "pay shadow;"}) {
+                for (int ahead = 0; ahead < 8; ahead++) {
+                    for (int bits = 0; bits < 8; bits++) {
+                        for (boolean both : new boolean[] {false, true}) {
+                            sameBehind(Checks.made(road, toll), Checks.made(road, toll), ahead, bits, both);
+                        }
+                    }
+                }
+            }
+        });
+    }
+
+    private static void sameBehind(ShadowTolls used, ShadowTolls fresh, int ahead, int bits, boolean both) {
+        used.plan(ahead, 0, !both, 0);
+        String name = "bits " + bits + (both ? ", both" : ", one bridge") + " behind bits " + ahead;
+        for (int what = 0; what < 5; what++) {
+            C.same(name + ", what " + what, used.plan(bits, 0, both, what), fresh.plan(bits, 0, both, what));
+        }
+        for (int k = 0; k < 3; k++) {
+            C.same(name + ", slot of " + k, used.slot(bits, 0, both, k), fresh.slot(bits, 0, both, k));
+        }
+        C.same(name + ", most", used.most(0), fresh.most(0));
+    }
+
     private static void sums() {
         C.edge("Part 3: EARNED: COINS of a PLAN", () -> {
             ShadowTolls x = Checks.made(ONE_SLOT + "second 0 9;traveller 100 10 500 600 9;traveller 100 20 500 600 9;", "pay weight;");
@@ -481,6 +509,12 @@ public final class PlanEdgeTest {
             C.same("the first", x.war(0, 1, 0), 30);
             C.same("both", x.war(0, 2, 0), 33);
             C.same("settled", x.war(0, 2, 1), 1);
+            ShadowTolls y = Checks.made(two, "pay 4;", "pay 3;", "pay 2;", "pay 1;");
+            y.law(0, 3);
+            y.law(1, 3);
+            C.same("the first takes the first of four", y.war(0, 1, 0), 3);
+            C.same("the second too", y.war(0, 2, 0), 0);
+            C.same("settled", y.war(0, 2, 1), 1);
             C.same("one toll", Checks.made(two, "pay 1;").war(0, 20, 0), 0);
             C.same("one toll is settled", Checks.made(two, "pay 1;").war(0, 0, 1), 1);
         });
