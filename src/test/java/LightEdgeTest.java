@@ -326,6 +326,16 @@ public final class LightEdgeTest {
             C.same("by the second's toll", secondPays().week(1, 0), 9);
             C.same("by the first's toll", secondPays().week(0, 0), 8);
         });
+        C.edge("Promise 14: The DAY of the least BEST MINUTE of one: MINUTES 0 and 1439 are as any other", () -> {
+            ShadowTolls x = Checks.made("keeper 0 1439;" + ONE, "pay 5 if day<10;pay 4 if day>9;");
+            C.same("the best minute", x.best(0, 0, 10, 0), 0);
+            C.same("what it costs on day 9", x.best(0, 0, 9, 1), 5);
+            C.same("the day of the lesser one", x.week(0, 0), 10);
+            x = Checks.made("keeper 0 1439;traveller 100 10 1439 1439 9;", "pay 5 if not day=21;");
+            C.same("the best minute", x.best(0, 0, 21, 0), 1439);
+            C.same("what it costs", x.best(0, 0, 21, 1), 0);
+            C.same("the day of the lesser one", x.week(0, 0), 21);
+        });
         C.edge("Promise 14: of these the first", () -> {
             C.same("all alike", Checks.made(ONE, "pay 5;").week(0, 0), 0);
             C.same("days 3 and 29 alike", Checks.made(ONE + "feast 29;feast 3;", "pay 5-feast;").week(0, 0), 3);
